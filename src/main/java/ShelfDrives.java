@@ -318,24 +318,19 @@ public final class ShelfDrives {
         if (cost < 0) {
             return BELOW_ZERO;
         }
-        int others = now.stockCost() + now.lostCost();
-        for (int carries = Math.max(1, now.greatestLoad()); carries <= MOST_CARRIED; carries++) {
-            if (others + now.roundsCostWith(carries) <= cost) {
-                return carries;
-            }
+        int most = cost - now.stockCost() - now.lostCost();
+        if (now.roundsCostWith(MOST_CARRIED) > most) {
+            return NONE;
         }
-        return NONE;
+        return leastTruck(Math.max(1, now.greatestLoad()), most);
     }
 
     public int reach() {
         trial.takeOver(now);
-        for (int percent = MOST_PERCENT; percent >= 0; percent--) {
-            trial.askPercent(percent);
-            if (trial.allMissed == 0) {
-                return percent;
-            }
+        if (losesAt(0)) {
+            return NONE;
         }
-        return NONE;
+        return greatestPercent();
     }
 
     public int scaled(int percent) {
@@ -501,6 +496,41 @@ public final class ShelfDrives {
             return 0;
         }
         return parting.setAt(k);
+    }
+
+    /** What one truck can do a bigger one can too, so what it costs never rises and halves can be left out. */
+    private int leastTruck(int least, int most) {
+        int low = least;
+        int high = MOST_CARRIED;
+        for (int step = 0; step < MOST_CARRIED && low < high; step++) {
+            int middle = (low + high) / 2;
+            if (now.roundsCostWith(middle) <= most) {
+                high = middle;
+            } else {
+                low = middle + 1;
+            }
+        }
+        return low;
+    }
+
+    /** Who is asked for more never has more left, so halves can be left out here too. */
+    private int greatestPercent() {
+        int low = 0;
+        int high = MOST_PERCENT;
+        for (int step = 0; step < MOST_PERCENT && low < high; step++) {
+            int middle = (low + high + 1) / 2;
+            if (losesAt(middle)) {
+                high = middle - 1;
+            } else {
+                low = middle;
+            }
+        }
+        return low;
+    }
+
+    private boolean losesAt(int percent) {
+        trial.askPercent(percent);
+        return trial.allMissed > 0;
     }
 
     private void keepAct() {
@@ -1075,54 +1105,51 @@ public final class ShelfDrives {
 
         /** What the rounds cost; the whole table is only made where one round is too few. */
         int priceOf(int[] loads, int carries) {
-            int set = 0;
-            int together = 0;
-            for (int shop = 0; shop < town.shops; shop++) {
-                if (loads[shop] > 0) {
-                    set |= 1 << shop;
-                    together += loads[shop];
-                }
-            }
-            if (set == 0) {
-                return 0;
-            }
+            int together = gather(loads);
             if (together <= carries) {
-                return roundPrices[set];
+                return all == 0 ? 0 : roundPrices[all];
             }
-            part(loads, carries);
-            return price[set];
+            for (int set = 1; set <= all; set++) {
+                partSet(set, carries);
+            }
+            return price[all];
         }
 
         /** Parts every set of shops that have a load; how many rounds all of them together have. */
         int part(int[] loads, int carries) {
-            all = 0;
-            for (int shop = 0; shop < town.shops; shop++) {
-                all |= loads[shop] > 0 ? 1 << shop : 0;
-            }
-            sum[0] = 0;
-            price[0] = 0;
-            count[0] = 0;
-            head[0] = 0;
+            gather(loads);
             for (int set = 1; set <= all; set++) {
-                if ((set & all) == set) {
-                    sum[set] = sum[set & set - 1] + loads[Integer.numberOfTrailingZeros(set)];
-                    partSet(set, carries);
-                }
+                partSet(set, carries);
             }
             return count[all];
         }
 
+        private int gather(int[] loads) {
+            int together = 0;
+            all = 0;
+            for (int shop = 0; shop < town.shops; shop++) {
+                all |= loads[shop] > 0 ? 1 << shop : 0;
+                sum[1 << shop] = loads[shop];
+                together += loads[shop];
+            }
+            return together;
+        }
+
         /** A way to two sets is never longer than a way to each, so what fits on one truck goes on one round. */
         private void partSet(int set, int carries) {
-            head[set] = set;
-            count[set] = 1;
-            price[set] = roundPrices[set];
-            if (sum[set] <= carries) {
+            if ((set & all) != set) {
                 return;
             }
-            price[set] = Integer.MAX_VALUE;
             int low = set & -set;
             int others = set ^ low;
+            sum[set] = sum[low] + sum[others];
+            head[set] = set;
+            count[set] = 1;
+            boolean fits = sum[set] <= carries;
+            price[set] = fits ? roundPrices[set] : Integer.MAX_VALUE;
+            if (fits) {
+                return;
+            }
             // some climbs through all the parts of others, so the least first set of like ones comes first
             for (int some = 0; some < others; some = some - others & others) {
                 int first = low | some;
@@ -1251,6 +1278,7 @@ public final class ShelfDrives {
     /** A plan of visits, run day by day, with what it costs. */
     static final class Run {
         private static final int STALE = -1;
+        private static final int ALL_DAYS = -1;
 
         final int[] visits = new int[MOST_SHOPS];
         final int[] asked = new int[CELLS];
@@ -1295,7 +1323,7 @@ public final class ShelfDrives {
                 asked[cell] = town.asked[cell] * percent / 100;
             }
             for (int shop = 0; shop < town.shops; shop++) {
-                runFrom(shop, 0);
+                runFrom(shop, 0, ALL_DAYS);
             }
         }
 
@@ -1303,7 +1331,7 @@ public final class ShelfDrives {
             int changed = visits[shop] ^ bits;
             if (changed != 0) {
                 visits[shop] = bits;
-                runFrom(shop, Integer.numberOfTrailingZeros(changed));
+                runFrom(shop, Integer.bitCount((changed & -changed) - 1), changed);
             }
         }
 
@@ -1313,8 +1341,11 @@ public final class ShelfDrives {
             }
         }
 
-        /** Days ahead of the first one that changed stay as they are; rounds are priced anew only where a load changed. */
-        private void runFrom(int shop, int from) {
+        /**
+         * Days ahead of the first one that changed stay as they are, and so do those behind the last one from an
+         * evening on that is as it was; rounds are priced anew only where a load changed.
+         */
+        private void runFrom(int shop, int from, int changed) {
             int there = morning(shop, from);
             for (int day = from; day < town.days; day++) {
                 int cell = cellOf(shop, day);
@@ -1326,10 +1357,14 @@ public final class ShelfDrives {
                 there += brought;
                 int sold = Math.min(there, asked[cell]);
                 there -= sold;
-                allLeft += there - left[cell];
-                left[cell] = there;
                 allMissed += asked[cell] - sold - missed[cell];
                 missed[cell] = asked[cell] - sold;
+                int was = left[cell];
+                allLeft += there - was;
+                left[cell] = there;
+                if (there == was && changed >>> day + 1 == 0) {
+                    return;
+                }
             }
         }
 
@@ -1579,17 +1614,36 @@ public final class ShelfDrives {
 
         void takeLeastPlan(Run run) {
             int cells = Math.min(town.shops * town.days, LEAST_PLAN_CELLS);
+            int plan = 0;
             int best = 0;
             int bestCost = Integer.MAX_VALUE;
-            for (int plan = 0; plan < 1 << cells; plan++) {
+            for (int left = 1 << cells; left > 0; left--) {
                 setPlan(run, plan);
                 int cost = run.wholeCost();
-                if (cost < bestCost || cost == bestCost && Integer.bitCount(plan) < Integer.bitCount(best)) {
+                if (cost < bestCost || cost == bestCost && isFewer(plan, best)) {
                     best = plan;
                     bestCost = cost;
                 }
+                plan = planBehind(plan, cells);
             }
             setPlan(run, best);
+        }
+
+        private static boolean isFewer(int plan, int other) {
+            int more = Integer.bitCount(plan) - Integer.bitCount(other);
+            return more < 0 || more == 0 && plan < other;
+        }
+
+        /** Counts from the highest bit down: late days change most often, and the days ahead of them need no new run. */
+        private static int planBehind(int plan, int cells) {
+            int next = plan;
+            for (int bit = 1 << cells >> 1; bit > 0; bit >>= 1) {
+                next ^= bit;
+                if ((next & bit) != 0) {
+                    return next;
+                }
+            }
+            return next;
         }
 
         private void setPlan(Run run, int plan) {

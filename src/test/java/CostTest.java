@@ -66,6 +66,12 @@ public final class CostTest {
         big.visit(0, 0);
         big.visit(1, 0);
         check.due("truck 99 at most", big.truck(1), 99);
+        ShelfDrives bigger = Check.of("days 1; truck 50 fixed 1 mile 0; hold 0; shop a at 0 0 shelf 50 stock 0 sells 0;"
+            + "shop b at 0 0 shelf 50 stock 0 sells 0;");
+        bigger.visit(0, 0);
+        bigger.visit(1, 0);
+        check.due("a truck of 100 is none", bigger.truck(1), NONE);
+        check.due("two rounds of 50", bigger.truck(2), 50);
     }
 
     private void promise28Reach() {

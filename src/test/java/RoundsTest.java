@@ -15,6 +15,17 @@ public final class RoundsTest {
         return x;
     }
 
+    /** Loads of 4, 5, 6, 5 for a truck of 10: only a and c with b and d are two rounds; a and b lie together. */
+    private static ShelfDrives four(String truck) {
+        ShelfDrives x = Check.of("days 1; truck 10 " + truck + "; shop a at 10 0 shelf 4 stock 0 sells 0;"
+            + "shop b at 10 0 shelf 5 stock 0 sells 0; shop c at 0 10 shelf 6 stock 0 sells 0;"
+            + "shop d at 0 10 shelf 5 stock 0 sells 0;");
+        for (int shop = 0; shop < 4; shop++) {
+            x.visit(shop, 0);
+        }
+        return x;
+    }
+
     private void promise16Rounds() {
         ShelfDrives x = three("fixed 1 mile 1");
         check.due("rounds without visits", x.rounds(0), 0);
@@ -52,6 +63,17 @@ public final class RoundsTest {
         check.due("like ones: the fewest", like.rounds(1), 2);
         check.due("like ones: the least set first", like.round(1, 0, 0), 1);
         check.due("like ones: then the next", like.round(1, 1, 0), 6);
+        ShelfDrives crossed = four("fixed 0 mile 0");
+        check.due("like ones: two rather than three", crossed.rounds(0), 2);
+        check.due("like ones: a and c", crossed.round(0, 0, 0), 5);
+        check.due("like ones: b and d", crossed.round(0, 1, 0), 10);
+        ShelfDrives apart = four("fixed 0 mile 1");
+        check.due("three rounds that cost less than two", apart.rounds(0), 3);
+        check.due("three rounds: a and b", apart.round(0, 0, 0), 3);
+        check.due("three rounds: c", apart.round(0, 1, 0), 4);
+        check.due("three rounds: d", apart.round(0, 2, 0), 8);
+        check.due("three rounds: cost", apart.costOf(0), 60);
+        check.due("two rounds where each is dear", four("fixed 30 mile 1").rounds(0), 2);
         ShelfDrives line = Check.of("shop a at 3 0 shelf 1 stock 0 sells 0; shop b at 1 0 shelf 1 stock 0 sells 0;"
             + "shop c at 2 0 shelf 1 stock 0 sells 0;");
         for (int shop = 0; shop < 3; shop++) {
@@ -122,6 +144,9 @@ public final class RoundsTest {
         check.due("savings day below", x.savings(-1, 0), NONE);
         check.due("savings what above", x.savings(1, 2), NONE);
         check.due("savings what below", x.savings(1, -1), NONE);
+        ShelfDrives one = three("fixed 1 mile 0");
+        check.due("savings of 1", one.savings(1, 1), 2);
+        check.due("savings of 1: cost", one.savings(1, 0), 2);
         savingsWorseThanParted();
     }
 

@@ -165,6 +165,11 @@ public final class TextTest {
         fault(many + "shop g", 5, 228);
         fault(many + "shop", 5, 228);
         fault(many + "days 1;", 2, 228);
+        fault(";".repeat(800), 2, 0);
+        fault("a".repeat(800), 1, 0);
+        fault("9".repeat(800), 1, 0);
+        fault("hold 1;" + " ".repeat(792) + "!", 1, 799);
+        fault("hold 1;" + " ".repeat(789) + "days", 2, 800);
         String rushes = "rush a 0 1;".repeat(12);
         fault(ONE + rushes + "rush b 9 9", 5, 38 + 132);
         ShelfDrives x = new ShelfDrives();

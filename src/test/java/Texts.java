@@ -22,7 +22,7 @@ final class Texts {
         int days = up(1, 14);
         int shops = Math.min(up(oneOf(20) ? 0 : 1, 6), mostCells / days);
         boolean small = oneOf(2);
-        int side = small ? up(1, 4) : 30;
+        int side = small && !oneOf(3) ? up(1, 4) : 30;
         int carries = oneOf(6) ? 60 : small ? up(5, 30) : up(10, 99);
         text.append("days ").append(days).append(oneOf(3) ? ";" : " ;\n");
         if (oneOf(2)) {
