@@ -67,6 +67,16 @@ public final class RoundsTest {
         check.due("like ones: two rather than three", crossed.rounds(0), 2);
         check.due("like ones: a and c", crossed.round(0, 0, 0), 5);
         check.due("like ones: b and d", crossed.round(0, 1, 0), 10);
+        ShelfDrives wide = Check.of("days 1; truck 10 fixed 0 mile 0; shop a at 0 0 shelf 5 stock 0 sells 0;"
+            + "shop b at 0 0 shelf 6 stock 0 sells 0; shop c at 0 0 shelf 5 stock 0 sells 0;");
+        wide.rule(0);
+        check.due("rule 0 where nothing is asked for", wide.rounds(0), 0);
+        for (int shop = 0; shop < 3; shop++) {
+            wide.visit(shop, 0);
+        }
+        check.due("like ones of three shops", wide.rounds(0), 2);
+        check.due("like ones of three shops: a and c", wide.round(0, 0, 0), 5);
+        check.due("like ones of three shops: b", wide.round(0, 1, 0), 2);
         ShelfDrives apart = four("fixed 0 mile 1");
         check.due("three rounds that cost less than two", apart.rounds(0), 3);
         check.due("three rounds: a and b", apart.round(0, 0, 0), 3);
@@ -147,6 +157,13 @@ public final class RoundsTest {
         ShelfDrives one = three("fixed 1 mile 0");
         check.due("savings of 1", one.savings(1, 1), 2);
         check.due("savings of 1: cost", one.savings(1, 0), 2);
+        ShelfDrives again = Check.of("days 1; truck 60 fixed 1 mile 0; shop a at 0 0 shelf 5 stock 0 sells 0;"
+            + "shop b at 0 0 shelf 5 stock 0 sells 0; shop c at 0 0 shelf 5 stock 0 sells 0;");
+        for (int shop = 0; shop < 3; shop++) {
+            again.visit(shop, 0);
+        }
+        check.due("savings of 1 again and again", again.savings(0, 1), 1);
+        check.due("savings of 1 again and again: cost", again.savings(0, 0), 1);
         savingsWorseThanParted();
     }
 
