@@ -166,6 +166,7 @@ public final class TextTest {
         fault(many + "shop", 5, 228);
         fault(many + "days 1;", 2, 228);
         fault(";".repeat(800), 2, 0);
+        fault(";1".repeat(400), 2, 0);
         fault("a".repeat(800), 1, 0);
         fault("9".repeat(800), 1, 0);
         fault("hold 1;" + " ".repeat(792) + "!", 1, 799);
