@@ -87,6 +87,7 @@ final class EdgesOfActs {
         edge.stays("rush(0, 0, 60)", NONE).due("shop(0, 10)", 720).due("about(8)", 12);
         for (int count = 11; count >= 0; count--) {
             edge.due("undo()", 1).due("about(7)", count).due("shop(0, 10)", 60 * count);
+            edge.due("lost(0, 0)", Math.max(0, 60 * count - 9));
         }
         edge.stays("undo()", 0);
     }

@@ -51,6 +51,9 @@ final class EdgesOfPlans {
         // days 0 and 2, 1 and 2, 1 and 3 would do
         edge.town("days 4;" + FREE + "shop a at 0 0 shelf 2 stock 1 sells 1;").row("alone(0, #)", 5, 0);
         edge.town("days 5;" + FREE + "shop a at 0 0 shelf 2 stock 1 sells 1;").row("alone(0, #)", 10, 0);
+        // days 0, 2, 3 and 5 cost as much as 1, 4 and 5, which end no earlier
+        edge.town("days 7; truck 7 fixed 0 mile 0; hold 2; lost 5; shop a at 0 1 shelf 4 stock 3 sells 3 1 1 1 3;");
+        edge.row("alone(0, #)", 50, 16);
     }
 
     private void aloneThatIsNone() {
@@ -78,6 +81,8 @@ final class EdgesOfPlans {
         edge.town("days 14;" + FREE + "shop a at 0 0 shelf 7 stock 6 sells 1;").row("every(0, #)", 7, 0, 0);
         edge.town("days 14; truck 60 fixed 2 mile 0; hold 0;shop a at 0 0 shelf 7 stock 6 sells 1;");
         edge.row("every(0, #)", 7, 0, 4);
+        // day 7 alone would do for 10, but an f of 7 is none
+        edge.town("days 14; hold 0; lost 99; shop a at 0 0 shelf 9 stock 7 sells 1;").row("every(0, #)", 7, 0, 20);
     }
 
     private void everyThatIsNone() {
@@ -97,6 +102,9 @@ final class EdgesOfPlans {
         edge.town("days 14;" + FREE + "shop a at 0 0 shelf 1 stock 0 sells 1;").row("joint(#)", 16383, 0, NONE);
         edge.town("days 14; lost 99; shop a at 0 0 shelf 30 stock 13 sells 1;").row("joint(#)", 8192, 117, NONE);
         edge.town("days 2; lost 0; shop a at 1 0 shelf 5 stock 5 sells 30;").row("joint(#)", 0, 0, NONE);
+        // days 0, 1 and 6 cost as much as 2 and 6
+        edge.town("days 7; truck 9 fixed 3 mile 0; hold 1; lost 5; shop a at 0 0 shelf 1 stock 0 sells 3 0;"
+            + "shop b at 2 1 shelf 5 stock 4 sells 0 2 3 0 1;").row("joint(#)", 4 + 64, 50 + 15 + 6, NONE);
     }
 
     private void jointThatIsNone() {
@@ -131,6 +139,10 @@ final class EdgesOfPlans {
         edge.town("days 3; shop a at 0 0 shelf 3 stock 3 sells 2 2 0; shop b at 0 0 shelf 3 stock 0 sells 0 0 1;");
         plan(edge.due("rule(0)", 2), 2, 4);
         plan(edge.due("rule(1)", 2), 2, 2).due("of(0, 3)", 0);
+        // on day 13 b is short, and a has just what it is asked for
+        edge.town("days 14; shop a at 0 0 shelf 60 stock 14 sells 1; shop b at 0 0 shelf 60 stock 13 sells 1;");
+        plan(edge.due("rule(0)", 1), 0, 8192).due("rule(1)", 1);
+        plan(edge.due("rule(13)", 1), 0, 8192);
     }
 
     private void ruleOfAnotherN() {
@@ -254,6 +266,20 @@ final class EdgesOfPlans {
         edge.town("days 2; truck 1 fixed 0; hold 0; shop a at 0 0 shelf 1 stock 0 sells 0 1; shop b at 0 0 shelf 1 stock 0 "
             + "sells 0 1;");
         plan(edge.due("least()", 0), 1, 1);
+        // b twice costs as much as b once, where what is lost costs as much as a round
+        edge.town("days 4; truck 13 fixed 2 mile 0; hold 0; lost 1; shop a at 0 1 shelf 8 stock 4 sells 1 0 3 1;"
+            + "shop b at 1 0 shelf 10 stock 1 sells 3;");
+        plan(edge.due("least()", 4), 1, 1);
+        // like ones with as many visits: 166 rather than 197; 77 rather than 141; 322 rather than 198, which has more
+        edge.town("days 4; truck 8 fixed 2 mile 0; hold 1; lost 4; shop a at 2 0 shelf 3 stock 2 sells 1 2 2 1;"
+            + "shop b at 1 0 shelf 2 stock 1 sells 0 1 1 2;");
+        plan(edge.due("least()", 11), 6, 10);
+        edge.town("days 4; truck 9 fixed 1 mile 0; hold 1; lost 2; shop a at 1 1 shelf 2 stock 1 sells 3 0 3 2;"
+            + "shop b at 0 2 shelf 3 stock 3 sells 0 1 1 2;");
+        plan(edge.due("least()", 14), 13, 4);
+        edge.town("days 5; truck 9 fixed 1 mile 1; hold 2; lost 2; shop a at 1 1 shelf 2 stock 0 sells 0 2 3 0 0;"
+            + "shop b at 2 0 shelf 4 stock 2 sells 3;");
+        plan(edge.due("least()", 32), 2, 10);
     }
 
     private void leastThatIsNone() {
@@ -266,8 +292,23 @@ final class EdgesOfPlans {
         edge.anew().due("least()", 0).due("about(8)", 1);
     }
 
+    /** Six shops, 14 days: what a visit on day 0 brings suffices for all of them. */
+    private void theGreatestTown() {
+        Edge edge = edges.term("shop (6 at most)", 27, 28, 29, 30, 31, 32, 34);
+        edge.town(six("days 14;" + FREE, " at 0 0 shelf 14 stock 0 sells 1;")).due("cost(0)", 84).due("rule(13)", 6);
+        plan(edge, 1, 1, 1, 1, 1, 1).due("rule(0)", 6);
+        plan(edge, 1, 1, 1, 1, 1, 1).due("cost(0)", 0).due("truck(0)", 14).due("reach()", 199).due("scaled(300)", 168);
+        edge.due("alone(5, 0)", 1).due("alone(5, 1)", 0).due("every(5, 0)", 7).due("every(5, 1)", 0).due("every(5, 2)", 0);
+        edge.due("joint(0)", 1).due("joint(1)", 0).due("rounds(0)", 2).due("round(0, 0, 0)", 3).due("round(0, 1, 0)", 60);
+        edge.due("savings(0, 1)", 6).due("peak(0)", 0).due("peak(1)", 84).due("chance(1, 20, 0, 1)", 0);
+        edge.due("worth(5, 13)", 0).due("worth(5, 0)", -14).due("better(40)", 0).due("tune(40)", 0).due("least()", NONE);
+        edge.due("visit(5, 13)", 1).due("load(5, 13)", 13).due("bears(5, 13)", 13).due("waits(5, 0)", NONE);
+        edge.due("clear()", 7).due("cost(0)", 84).due("reach()", 99).due("scaled(99)", 0);
+    }
+
     static void all(Edges edges) {
         EdgesOfPlans of = new EdgesOfPlans(edges);
+        of.theGreatestTown();
         of.byItself();
         of.nothingLost();
         of.aloneOfLikeOnes();

@@ -61,8 +61,8 @@ final class EdgesOfRounds {
     private void costLeastThenFewest() {
         Edge edge = edges.term("parted so that they cost least, of like ones the fewest", 16, 17, 25);
         int[] places = {10, 0, 10, 0, 0, 10, 0, 10};
-        sets(lacking(edge, "truck 10 fixed 19;", places, 4, 5, 6, 5), 3, 4, 8);
-        edge.stays("costOf(0)", 117);
+        lacking(edge, "truck 10 fixed 19;", places, 4, 5, 6, 5).stays("costOf(0)", 117);
+        sets(edge, 3, 4, 8);
         sets(lacking(edge, "truck 10 fixed 20;", places, 4, 5, 6, 5), 5, 10);
         edge.stays("costOf(0)", 120);
         sets(lacking(edge, "truck 10 fixed 21;", places, 4, 5, 6, 5), 5, 10);
@@ -164,6 +164,20 @@ final class EdgesOfRounds {
         saved(atDepot(edge, "truck 9 fixed 3;", 5, 5, 5, 5, 5, 5), 18, 6);
     }
 
+    private void savingsAgainAndAgain() {
+        Edge edge = edges.term("SAVINGS of a DAY: each SHOP with a LOAD above 0 has a ROUND of its own", 21);
+        saved(atDepot(edge, "truck 60 fixed 1;", 1), 1, 1);
+        saved(atDepot(edge, "truck 60 fixed 0;", 1, 1, 1), 0, 3);
+        saved(atDepot(edge, "truck 60 fixed 1;", 1, 1, 1), 1, 1);
+        saved(edge.town("days 1; shop a at 1 0 shelf 5 stock 5 sells 0;").does("visit(0, 0)"), 0, 0);
+        // a and b save 25 first, then c and d, then both 5, if they fit
+        int[] places = {10, 0, 10, 0, 0, 10, 0, 10};
+        saved(lacking(edge, "truck 20 fixed 5;", places, 5, 5, 5, 5), 45, 1);
+        saved(lacking(edge, "truck 19 fixed 5;", places, 5, 5, 5, 5), 50, 2);
+        saved(lacking(edge, "truck 9 fixed 5;", places, 5, 5, 5, 5), 100, 4);
+        saved(lacking(edge, "truck 10 fixed 5;", places, 5, 5, 5, 6), 75, 3);
+    }
+
     private void savingsThatCostLess() {
         Edge edge = edges.term("those by which it costs least in all, if that is less than ahead", 21);
         saved(lacking(edge, "truck 60 fixed 0;", new int[] {1, 0, 0, 3}, 5, 5), 8, 2);
@@ -224,7 +238,8 @@ final class EdgesOfRounds {
         Edge edge = edges.promise(23, "The DAY with the most LOADS together, the first of like ones (what 0), "
             + "these (what 1). NONE for another what.");
         edge.town("days 14; truck 99; shop a at 0 0 shelf 9 stock 4 sells 1; shop b at 0 0 shelf 9 stock 9 sells 1;");
-        edge.row("peak(#)", 0, 0, NONE).does("visit(0, 13)").row("peak(#)", 13, 9, NONE);
+        edge.row("peak(#)", 0, 0, NONE).does("visit(1, 1)").row("peak(#)", 1, 1, NONE).does("undo()");
+        edge.does("visit(0, 13)").row("peak(#)", 13, 9, NONE);
         edge.does("visit(1, 9)").row("peak(#)", 9, 9).does("visit(0, 0)").row("peak(#)", 9, 9);
         edge.does("visit(1, 10)", "visit(0, 10)").row("peak(#)", 10, 1 + 9).stays("peak(-1)", NONE);
         edge.stays("peak(" + Edge.MOST + ")", NONE).stays("peak(" + Edge.LEAST + ")", NONE);
@@ -244,6 +259,7 @@ final class EdgesOfRounds {
         of.miles();
         of.together();
         of.savingsThatFit();
+        of.savingsAgainAndAgain();
         of.savingsThatCostLess();
         of.savingsOfTheLeastShops();
         of.savingsThatAreNone();

@@ -145,6 +145,8 @@ final class EdgesOfRun {
     private void chance() {
         Edge edge = edges.term("(seed >>> 16) % (2 * spread + 1) less spread is added to what is ASKED (0 at least then)",
             15);
+        edge.town("days 3; shop a at 0 0 shelf 9 stock 8 sells 3;").stays("chance(0, 1, 0, 1)", 1);
+        edge.stays("chance(0, 20, 0, 1)", 20).does("visit(0, 1)").stays("chance(0, 20, 0, 1)", 0);
         edge.town("days 2; shop a at 0 0 shelf 9 stock 5 sells 0;").stays("chance(0, 1, 20, 1)", 9);
         edge.stays("chance(0, 1, 20, 0)", 1).stays("chance(0, 1, 0, 1)", 0);
         edge.town("days 2; shop a at 0 0 shelf 9 stock 0 sells 10; shop b at 0 0 shelf 9 stock 0 sells 0;");

@@ -73,6 +73,11 @@ final class EdgesOfTape {
         edge.does(HOLD_7).due("end(6)", 6).due("text()", NONE).due("fault(0)", 2).due("fault(1)", 6);
         edge.does(HOLD_7).due("end(0)", 0).due("about(9)", 0).due("text()", 0).due("about(5)", 1);
         edge.does(HOLD_7).due("end(0)", 0).stays("end(1)", NONE).does(HOLD_3).due("text()", 0).due("about(5)", 3);
+        // what was behind the first n bytes is no more: no letter behind the digit, no longer word, no second digit
+        edge.anew().puts("hold 7xyz").due("end(6)", 6).due("text()", NONE).due("fault(0)", 2).due("fault(1)", 6);
+        edge.anew().puts("holdxyz 7;").due("end(4)", 4).due("text()", NONE).due("fault(0)", 2).due("fault(1)", 4);
+        edge.anew().puts("hold 777;").due("end(7)", 7).due("text()", NONE).due("fault(0)", 4).due("fault(1)", 5);
+        edge.anew().puts("hold 7;;").due("end(7)", 7).due("text()", 0).due("about(5)", 7);
     }
 
     private void endedAtTheMost() {
@@ -81,6 +86,8 @@ final class EdgesOfTape {
         edge.puts(whole).stays("end(800)", 800).stays("end(801)", NONE).due("text()", 0).due("about(5)", 7);
         edge.puts(whole).due("end(799)", 799).stays("end(800)", NONE).due("text()", NONE);
         edge.due("fault(0)", 2).due("fault(1)", 799).due("about(5)", 7);
+        edge.anew().puts(" ".repeat(794) + "hold 7").due("text()", NONE).due("fault(0)", 2).due("fault(1)", 800);
+        edge.anew().puts(" ".repeat(800)).due("text()", 0).due("fault(0)", 0);
         edge.puts("hold 3;".repeat(114) + "  ").due("text()", NONE).due("fault(0)", 2).due("fault(1)", 7);
     }
 

@@ -192,7 +192,7 @@ final class EdgesOfText {
         Edge edge = term("so much (1 .. 60) more is asked for");
         edge.reads(A + "rush a 2 1;", 1).due("shop(0, 12)", 2).reads(A + "rush a 2 60;", 1).due("shop(0, 12)", 61);
         edge.faults(A + "rush a 2 0;", 4, 47).faults(A + "rush a 2 61;", 4, 47).faults(A + "rush a 2 100;", 1, 47);
-        edge.reads(A + "rush a 2 60;".repeat(12), 1).due("shop(0, 12)", 721);
+        edge.reads(A + "rush a 2 60;".repeat(12), 1).due("shop(0, 12)", 721).due("lost(0, 2)", 720).due("lost(0, 3)", 1);
     }
 
     private void words() {
@@ -275,6 +275,7 @@ final class EdgesOfText {
         edge.faults("days", 2, 4).faults("days ", 2, 5).faults("days 3", 2, 6).faults("days 3 \n ", 2, 9);
         edge.faults("days 3;" + " ".repeat(789) + "days", 2, 796).faults("hold 3;" + " ".repeat(789) + "days", 2, 800);
         edge.faults("hold 3;" + " ".repeat(792) + "!", 1, 799).faults(" ".repeat(799) + ";", 2, 799);
+        edge.faults(";".repeat(800), 2, 0).faults("hold 3;" + ";1".repeat(396), 2, 7).faults("9".repeat(799), 1, 0);
         // 1 ahead of 2, of 3, of 4; 2 ahead of 3, of 4, of 5
         edge.faults("days !", 1, 5).faults("!", 1, 0).faults(A + "rush bbbbbbb 0 1;", 1, 43).faults("days 150;", 1, 5);
         edge.faults(A + "rush days 0 1;", 2, 43).faults(A.replace("1;", "1 2 3 4 5 6 7 99;"), 2, 50);
@@ -303,6 +304,8 @@ final class EdgesOfText {
         edge.faults("truck 9 mile 1 fixed 1;", 2, 15).faults("truck 9 mile 1 mile 1;", 2, 15);
         edge.faults("truck 9 fixed 1 fixed 1;", 2, 16).faults("truck 9 9;", 2, 8).faults("truck fixed 1;", 2, 6);
         edge.faults("fixed 1;", 2, 0).faults("mile 1;", 2, 0).faults("at 1 1;", 2, 0).faults("hold;", 2, 4);
+        edge.faults("days;", 2, 4).faults("depot;", 2, 5).faults("depot 1;", 2, 7).faults("truck;", 2, 5);
+        edge.faults("lost;", 2, 4).faults("lost 1 1;", 2, 7).faults("hold 1 1;", 2, 7).faults("depot 1 1 1;", 2, 10);
         edge.faults("truck 9 fixed;", 2, 13).faults("truck 9 mile;", 2, 12).faults("days 3 days 3;", 2, 7);
         edge.faults(A + "rush a 1;", 2, 46).faults(A + "rush a;", 2, 44).faults(A + "rush;", 2, 42);
         edge.faults(A + "rush a 1 1 1;", 2, 49).faults(A + "rush a 1 1", 2, 48).faults(";", 2, 0);
