@@ -29,7 +29,7 @@ final class EdgesOfPlans {
         Edge edge = edges.term("ALONE: of a SHOP by itself (its VISITS alone, ROUNDS to it alone)", 30, 31);
         String b = "shop b at 1 0 shelf 5 stock 5 sells 5;";
         edge.town("days 2;" + b).row("alone(0, #)", 2, 12, NONE).row("every(0, #)", 7, 1, 12, NONE);
-        edge.town("days 2; shop a at 1 0 shelf 9 stock 0 sells 9;" + b).does("visit(0, 1)", "visit(1, 0)", "visit(0, 0)");
+        edge.town("days 2; shop a at 9 9 shelf 9 stock 0 sells 9;" + b).does("visit(0, 1)", "visit(1, 0)", "visit(0, 0)");
         edge.row("alone(1, #)", 2, 12, NONE).row("every(1, #)", 7, 1, 12, NONE);
     }
 
@@ -102,6 +102,9 @@ final class EdgesOfPlans {
         edge.town("days 14;" + FREE + "shop a at 0 0 shelf 1 stock 0 sells 1;").row("joint(#)", 16383, 0, NONE);
         edge.town("days 14; lost 99; shop a at 0 0 shelf 30 stock 13 sells 1;").row("joint(#)", 8192, 117, NONE);
         edge.town("days 2; lost 0; shop a at 1 0 shelf 5 stock 5 sells 30;").row("joint(#)", 0, 0, NONE);
+        // days 0 and 2 cost 3 and 13 for stocks; day 3 alone is fewer, but costs 1 and 9, and 8 for what is lost
+        edge.town("days 4; truck 11 fixed 0 mile 0; hold 1; lost 4; shop a at 1 1 shelf 3 stock 2 sells 2 1 1;"
+            + "shop b at 1 0 shelf 5 stock 4 sells 2 0 1 1;").row("joint(#)", 5, 16, NONE);
         // days 0, 1 and 6 cost as much as 2 and 6
         edge.town("days 7; truck 9 fixed 3 mile 0; hold 1; lost 5; shop a at 0 0 shelf 1 stock 0 sells 3 0;"
             + "shop b at 2 1 shelf 5 stock 4 sells 0 2 3 0 1;").row("joint(#)", 4 + 64, 50 + 15 + 6, NONE);
@@ -304,6 +307,8 @@ final class EdgesOfPlans {
         edge.due("worth(5, 13)", 0).due("worth(5, 0)", -14).due("better(40)", 0).due("tune(40)", 0).due("least()", NONE);
         edge.due("visit(5, 13)", 1).due("load(5, 13)", 13).due("bears(5, 13)", 13).due("waits(5, 0)", NONE);
         edge.due("clear()", 7).due("cost(0)", 84).due("reach()", 99).due("scaled(99)", 0);
+        edge.town(six("days 14;" + FREE, " at 0 0 shelf 60 stock 60 sells 1;")).due("rule(0)", 0).due("rule(13)", 0);
+        edge.due("about(8)", 2).due("better(40)", 0).due("tune(40)", 0).due("joint(0)", 0).due("alone(5, 0)", 0);
     }
 
     static void all(Edges edges) {

@@ -102,6 +102,11 @@ final class EdgesOfTape {
         edge.town("shop a at 0 0 shelf 5 stock 5 sells 1;").does("visit(0, 6)", "rush(0, 0, 9)");
         edge.puts("shop a at 0 0 shelf 5 stock 5 sells 1;").due("text()", 1).due("shop(0, 4)", 0).due("shop(0, 10)", 1);
         edge.due("about(7)", 0).stays("undo()", 0).due("cost(0)", 4 + 3 + 2 + 1 + 20 + 20);
+        // nothing of a greater text is left: no loads, no days
+        edge.town("days 14; shop a at 9 9 shelf 50 stock 0 sells 9; shop b at 9 9 shelf 40 stock 0 sells 9;");
+        edge.does("visit(0, 13)", "visit(1, 13)").due("peak(1)", 90).puts("hold 0; shop a at 0 0 shelf 5 stock 5 sells 0;");
+        edge.due("text()", 1).stays("truck(0)", 1).stays("peak(1)", 0).stays("cost(0)", 0).stays("load(1, 13)", NONE);
+        edge.stays("load(0, 13)", NONE).stays("shop(0, 23)", NONE).stays("miles(2)", NONE);
     }
 
     private void readWithAFault() {
