@@ -108,6 +108,15 @@ final class EdgesOfCost {
         edge.stays("reach()", 99);
     }
 
+    /** At 0 of a hundred nothing is asked for, so that nothing is lost: there is always one. */
+    private void reachOfNone() {
+        Edge edge = edges.promise(28, "NONE if for none.");
+        edge.town("lost 99; shop a at 0 0 shelf 1 stock 0 sells 30;" + "rush a 0 60;".repeat(12)).stays("reach()", 0);
+        edge.town("days 1; shop a at 0 0 shelf 1 stock 0 sells 30; rush a 0 60;").stays("reach()", 1);
+        edge.does("rush(0, 0, 9)").stays("reach()", 1).does("rush(0, 0, 1)").stays("reach()", 0).does("visit(0, 0)");
+        edge.stays("reach()", 1);
+    }
+
     private void scaled() {
         Edge edge = edges.promise(29, "COST, were all SHOPS ASKED for so many of a hundred (0 .. 300) of what they are "
             + "(each SHOP and DAY cut); NONE if that can't be.");
@@ -130,6 +139,7 @@ final class EdgesOfCost {
         of.truckThatSuffices();
         of.truckBelowNothing();
         of.reach();
+        of.reachOfNone();
         of.scaled();
     }
 }
