@@ -19,6 +19,8 @@ public final class ShelfDrives {
     private static final int SETS = 1 << MOST_SHOPS;
     private static final int PLACES = MOST_SHOPS + 1;
     private static final int DEPOT = MOST_SHOPS;
+    /** Above every cost and every way, and far enough below the greatest int that a price can be added. */
+    private static final int TOO_MUCH = 1000000000;
 
     private final int[] tape = new int[MOST_BYTES];
     private int bytes = 0;
@@ -1059,7 +1061,7 @@ public final class ShelfDrives {
             if (open == 0) {
                 return between(from, DEPOT);
             }
-            int least = Integer.MAX_VALUE;
+            int least = TOO_MUCH;
             for (int shop = 0; shop < shops; shop++) {
                 if ((open >> shop & 1) == 1) {
                     least = Math.min(least, milesBy(open, from, shop));
@@ -1146,19 +1148,21 @@ public final class ShelfDrives {
             head[set] = set;
             count[set] = 1;
             boolean fits = sum[set] <= carries;
-            price[set] = fits ? roundPrices[set] : Integer.MAX_VALUE;
+            price[set] = fits ? roundPrices[set] : TOO_MUCH;
             if (fits) {
                 return;
             }
-            // some climbs through all the parts of others, so the least first set of like ones comes first
-            for (int some = 0; some < others; some = some - others & others) {
+            // some goes down through all the smaller parts of others, so of like ones the last is the least first set
+            int some = others;
+            while (some > 0) {
+                some = some - 1 & others;
                 int first = low | some;
                 int rest = set ^ first;
                 if (sum[first] > carries) {
                     continue;
                 }
                 int cost = roundPrices[first] + price[rest];
-                if (cost < price[set] || cost == price[set] && 1 + count[rest] < count[set]) {
+                if (cost < price[set] || cost == price[set] && 1 + count[rest] <= count[set]) {
                     price[set] = cost;
                     count[set] = 1 + count[rest];
                     head[set] = first;
@@ -1616,7 +1620,7 @@ public final class ShelfDrives {
             int cells = Math.min(town.shops * town.days, LEAST_PLAN_CELLS);
             int plan = 0;
             int best = 0;
-            int bestCost = Integer.MAX_VALUE;
+            int bestCost = TOO_MUCH;
             for (int left = 1 << cells; left > 0; left--) {
                 setPlan(run, plan);
                 int cost = run.wholeCost();
@@ -1656,7 +1660,7 @@ public final class ShelfDrives {
 
         /** The greatest steps come first, so a like one behind never takes the place. */
         void findEvery(Run run, int shop) {
-            everyCost = Integer.MAX_VALUE;
+            everyCost = TOO_MUCH;
             for (int step = 7; step >= 1; step--) {
                 for (int from = 0; from < step; from++) {
                     run.setVisits(shop, daysBy(step, from));
@@ -1685,8 +1689,6 @@ public final class ShelfDrives {
      * behind it does not depend on what was ahead: the best rows of days that end with a visit on each day suffice.
      */
     static final class Common {
-        private static final int NEVER = Integer.MAX_VALUE;
-
         private final Town town;
         private final Parting parting;
         private final int[] cost = new int[MOST_DAYS + 2];
@@ -1710,17 +1712,17 @@ public final class ShelfDrives {
 
         /** Place 0 is the start, place d + 1 a visit on day d, the place behind these the end. */
         boolean findDays(int group, boolean mayLose) {
-            Arrays.fill(cost, NEVER);
+            Arrays.fill(cost, TOO_MUCH);
             Arrays.fill(lacks, 0);
             cost[0] = 0;
             count[0] = 0;
             days[0] = 0;
             for (int from = 0; from <= town.days; from++) {
-                if (cost[from] != NEVER) {
+                if (cost[from] != TOO_MUCH) {
                     goOn(from, group, mayLose);
                 }
             }
-            return cost[town.days + 1] != NEVER;
+            return cost[town.days + 1] != TOO_MUCH;
         }
 
         private void goOn(int from, int group, boolean mayLose) {
