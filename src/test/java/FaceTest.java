@@ -21,7 +21,8 @@ public final class FaceTest {
         "clear 0", "rush 3", "undo 0"};
     private static final String[] BARRED = {"\\bthrow\\b", "\\btry\\b", "\\bcatch\\b", "\\bsynchronized\\b",
         "\\bassert\\b", "->", "::", "\\bdouble\\b", "\\bfloat\\b", "\\brecord\\b", "Exact\\(", "\\bthrows\\b",
-        "\\bSystem\\.(?!arraycopy)", "\\bMath\\.(?!abs|max|min)", "\\bvar\\b", "\\bprotected\\b"};
+        "\\bSystem\\.(?!arraycopy)", "\\bMath\\.(?!abs|max|min)", "\\bArrays\\.(?!fill)", "\\bInteger\\.(?!bitCount)",
+        "\\bLong\\b", "\\bCharacter\\b", "\\bvar\\b", "\\bprotected\\b", "while \\(true\\)", "for \\(;;"};
 
     private final Check check = new Check();
 
